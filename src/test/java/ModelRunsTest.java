@@ -1,0 +1,296 @@
+import java.util.Random;
+import java.util.Map;
+import java.util.TreeMap;
+
+/** Runs of calls made up by a random source with a fixed seed: the program answers as the model does. */
+public final class ModelRunsTest {
+    private static final Map<String, Integer> SEEN = new TreeMap<>();
+    private final Random random;
+    private final Pair pair;
+    private final int n;
+
+    private ModelRunsTest(int seed) {
+        random = new Random(seed);
+        pair = new Pair("seed " + seed, random.nextInt(8) == 0 ? random.nextInt(12) - 2 : 5 + random.nextInt(3));
+        n = pair.n;
+    }
+
+    public static void main(String[] args) {
+        int runs = args.length > 0 ? Integer.parseInt(args[0]) : 300;
+        int first = args.length > 1 ? Integer.parseInt(args[1]) : 1;
+        for (int seed = first; seed < first + runs; seed++) new ModelRunsTest(seed).run();
+        System.out.println("seen: " + SEEN);
+        System.out.println(Pair.calls + " calls, " + Pair.wrong + " runs went wrong");
+        if (Pair.wrong != 0) System.exit(1);
+    }
+
+    private static void seen(String what) {
+        SEEN.merge(what, 1, Integer::sum);
+    }
+
+    private int upTo(int most) {
+        return random.nextInt(most + 1);
+    }
+
+    private boolean oneIn(int many) {
+        return random.nextInt(many) == 0;
+    }
+
+    private int anyField() {
+        return oneIn(25) ? upTo(n * n + 6) - 3 : random.nextInt(n * n);
+    }
+
+    private void run() {
+        for (int round = 0; round < 3 && pair.made() < 380; round++) {
+            if (oneIn(3)) tellKinds();
+            if (oneIn(3)) scribbleLines();
+            if (!setUp()) continue;
+            int style = upTo(3);
+            if (style == 0) chase();
+            else if (style == 1) wander();
+            else if (style == 2) repeatStands();
+            else askAll();
+            texts();
+            if (pair.made() > 480) return;
+            pair.call("digest");
+            seen("clear " + Math.min(1, pair.call("clear")));
+            pair.longCall("digest");
+        }
+    }
+
+    private int bits(int many) {
+        int v = 0;
+        for (int i = upTo(4); i > 0; i--) v |= 1 << random.nextInt(many);
+        return v;
+    }
+
+    private void tellKinds() {
+        for (int i = upTo(5); i > 0; i--) {
+            int kind = upTo(7);
+            boolean plain = kind == 0 && !oneIn(4);
+            int raisedSteps = plain || oneIn(2) ? 0 : bits(10);
+            int raisedRuns = plain || oneIn(2) ? 0 : bits(8);
+            int[] a = {kind, bits(10), oneIn(2) ? 0 : bits(8), raisedSteps, raisedRuns, plain ? 0 : upTo(3)};
+            if (oneIn(10)) a[random.nextInt(6)] = oneIn(2) ? -1 : 1 << (3 + upTo(8));
+            pair.call("kind", a);
+        }
+    }
+
+    private void scribbleLines() {
+        for (int i = upTo(12); i > 0; i--) {
+            int r = upTo(n + 1) - 1;
+            int q = upTo(n - 1);
+            int form = oneIn(9) ? upTo(4) - 1 : upTo(2);
+            int what = upTo(5);
+            if (what == 0) pair.call("line", r, form, upTo(16) - 2);
+            if (what == 1) pair.call("put", r, form, upTo(14) - 1, oneIn(2) ? random.nextInt() : upTo(70000) - 35000);
+            if (what == 2) pair.call("get", r, form, upTo(14) - 1);
+            if (what == 3) pair.call("copy", r, upTo(9) - 1, q, upTo(9) - 1, upTo(6) - 1);
+            if (what == 4) pair.call("lose", r);
+            if (what == 5) pair.call("finding");
+        }
+    }
+
+    private int manItem() {
+        int kind = oneIn(40) ? 0 : 1 + random.nextInt(7);
+        boolean raised = oneIn(4) && (oneIn(30) || pair.model.kinds[kind].mayBeRaised());
+        return 1 + kind + (raised ? 8 : 0) + 16 * upTo(1);
+    }
+
+    private boolean setUp() {
+        int[] items = new int[n * n];
+        int men = oneIn(3) ? upTo(n * n / 2) : upTo(8);
+        for (int i = 0; i < men; i++) items[random.nextInt(n * n)] = manItem();
+        items[random.nextInt(n * n)] = 1;
+        items[random.nextInt(n * n)] = 17;
+        if (oneIn(40)) items[random.nextInt(n * n)] = oneIn(2) ? 33 : -1;
+        for (int r = 0; r < n; r++) {
+            int form = upTo(2);
+            boolean empty = true;
+            for (int c = 0; c < n; c++) empty &= items[n * r + c] == 0;
+            if (empty && oneIn(2)) {
+                pair.call("lose", r);
+                continue;
+            }
+            pair.call("line", r, form, n + upTo(12 - n));
+            for (int c = 0; c < n; c++) {
+                if (items[n * r + c] != 0) pair.call("put", r, form, c, items[n * r + c] + (oneIn(40) ? 65536 : 0));
+            }
+        }
+        for (int i = upTo(6); i > 0; i--) {
+            if (oneIn(2)) pair.call("hand", upTo(1), 1 + upTo(6), upTo(3));
+            else pair.call("hand", oneIn(9) ? 2 : upTo(1), upTo(8), upTo(11) - 1);
+        }
+        for (int i = 0; i < 2; i++) {
+            int answer = pair.call("stand", oneIn(20) ? upTo(4) - 2 : upTo(1));
+            seen("stand " + Math.min(answer, 1));
+            if (answer >= 0) return true;
+        }
+        return false;
+    }
+
+    private void ask() {
+        int what = upTo(16);
+        if (what == 0) pair.call("field", anyField());
+        if (what == 1) pair.call("has", upTo(3) - 1, upTo(9) - 1);
+        if (what == 2) pair.call("attacks", oneIn(15) ? 2 : upTo(1), anyField());
+        if (what == 3) pair.call("check", oneIn(15) ? -1 : upTo(1));
+        if (what == 4) pair.call("moves");
+        if (what >= 5 && what <= 7) pair.call("move", upTo(Math.max(1, pair.call("moves"))), upTo(6) - 1);
+        if (what == 8 || what == 9) seen("why " + pair.call("why", anyField(), anyField(), upTo(1)));
+        if (what >= 10 && what <= 12) askWhy();
+        if (what == 13 || what == 14) seen("whySet " + pair.call("whySet", oneIn(20) ? upTo(9) - 1 : 1 + upTo(6), anyField()));
+        if (what == 15) seen("rows " + Math.min(0, pair.call("rows", oneIn(9) ? upTo(5) - 1 : oneIn(3) ? 3 : 1 + upTo(1))));
+        if (what == 16) pair.call("play", upTo(7) - 1);
+    }
+
+    private void askWhy() {
+        int from = random.nextInt(n * n);
+        Model.Man man = pair.model.now == null ? null : pair.model.now.board[from];
+        if (man == null) return;
+        for (int to : pair.model.reach(pair.model.now.board, man, from)) {
+            seen("why " + pair.call("why", from, to, 0));
+            seen("why " + pair.call("why", from, to, 1));
+        }
+    }
+
+    private void askAll() {
+        int moves = pair.call("moves");
+        for (int i = 0; i < Math.min(moves, 20); i++) {
+            for (int what = 0; what < 5; what++) pair.call("move", moves <= 20 ? i : random.nextInt(moves), what);
+        }
+        for (int f = 0; f < n * n; f++) pair.call("attacks", upTo(1), f);
+        for (int i = 0; i < 60; i++) seen("whySet " + pair.call("whySet", 1 + upTo(6), random.nextInt(n * n)));
+        for (int i = 1; i <= 3; i++) seen("rows " + Math.min(0, pair.call("rows", i)));
+    }
+
+    private void goAnywhere() {
+        int moves = pair.call("moves");
+        seen("go " + pair.call("go", oneIn(30) ? moves : oneIn(30) ? -1 : random.nextInt(Math.max(1, moves))));
+    }
+
+    private void wander() {
+        for (int i = 20 + upTo(60); i > 0; i--) {
+            if (oneIn(3)) ask();
+            if (oneIn(7)) pair.call("back");
+            else if (oneIn(6)) pair.call("forth");
+            else goAnywhere();
+            if (oneIn(4)) pair.longCall("digest");
+        }
+    }
+
+    /** Goes to and fro among few MOVES, checks ahead of others, so that STANDS come again. */
+    private void repeatStands() {
+        for (int i = 0; i < 60; i++) {
+            Model model = pair.model;
+            int pick = -1;
+            int best = -1;
+            var all = model.movesOf(model.now);
+            for (int m = 0; m < all.size(); m++) {
+                Model.Stand then = model.after(model.now, all.get(m));
+                int value = random.nextInt(3);
+                for (Model.Stand s : model.stands) if (s.name().equals(then.name())) value += 4;
+                if (model.inCheck(then, then.side)) value += 20;
+                if (value > best) {
+                    best = value;
+                    pick = m;
+                }
+            }
+            int state = pair.call("go", pick);
+            seen("go " + state);
+            pair.call("play", oneIn(2) ? 4 : 5);
+            if (state != 0) {
+                pair.call("play", 1);
+                pair.call("go", 0);
+                pair.call("back");
+                pair.call("play", 1);
+                pair.call("forth");
+                pair.call("play", 1);
+                pair.call("play", 3);
+                return;
+            }
+        }
+    }
+
+    private void chase() {
+        if (oneIn(2)) pair.call("fuel", oneIn(4) ? upTo(1002) - 1 : 1000);
+        for (int i = 0; i < 6; i++) {
+            int answer = pair.call("hunt", oneIn(20) ? upTo(6) - 1 : 1 + upTo(3));
+            seen("hunt " + answer);
+            pair.call("spent");
+            int nodes = pair.call("tree");
+            if (nodes > 0) {
+                lookAtTree(nodes);
+                return;
+            }
+            if (answer == 0 && oneIn(2)) pair.call("verify");
+            goAnywhere();
+        }
+    }
+
+    private void lookAtTree(int nodes) {
+        seen("verify " + pair.call("verify"));
+        for (int i = 0; i < Math.min(nodes + 1, 14); i++) {
+            int node = nodes < 14 ? i : random.nextInt(nodes);
+            for (int what = 0; what < 7; what++) pair.call("node", node, what);
+        }
+        pair.call("node", 0, oneIn(2) ? 7 : -1);
+        pair.call("node", -1, 0);
+        for (int i = upTo(6); i > 0; i--) forge(nodes);
+        if (oneIn(2)) {
+            goAnywhere();
+            pair.call("tree");
+            pair.call("verify");
+            pair.call("back");
+        }
+        if (oneIn(3)) pair.call("hunt", 1 + upTo(1));
+        pair.call("tree");
+    }
+
+    private void forge(int nodes) {
+        int node = oneIn(12) ? nodes : random.nextInt(nodes);
+        int other = random.nextInt(nodes);
+        boolean likely = oneIn(2);
+        int from = likely ? pair.call("node", other, 1) : oneIn(2) ? -1 : anyField();
+        int to = likely ? pair.call("node", other, 2) : anyField();
+        int raise = oneIn(4) ? 1 : 0;
+        int kind = likely ? pair.call("node", other, 4) : upTo(8);
+        seen("forge " + pair.call("forge", node, from, to, raise, kind));
+        seen("verify " + Math.min(2, pair.call("verify")));
+        for (int what = 0; what < 7; what++) pair.call("node", node, what);
+    }
+
+    private void texts() {
+        pair.call("write");
+        for (int i = 0; i < 4; i++) pair.call("letter", upTo(60) - 1);
+        int had = pair.model.text.size();
+        if (oneIn(2) && had > 0) {
+            pair.call("read");
+            seen("read whole");
+        }
+        for (int i = upTo(3); i > 0; i--) {
+            if (oneIn(2)) typeMove();
+            else pair.call("type", oneIn(6) ? upTo(300) - 20 : "abcde12345*+ ".charAt(upTo(12)));
+            seen("read " + (pair.call("read") >= 0 ? "well" : "ill"));
+            pair.longCall("digest");
+            pair.call("play", 3);
+        }
+        if (oneIn(2)) pair.call("wipe");
+        if (oneIn(3)) {
+            pair.call("read");
+            pair.call("play", 2);
+        }
+        pair.call("write");
+    }
+
+    private void typeMove() {
+        Model model = pair.model;
+        var all = model.movesOf(model.now);
+        if (all.isEmpty()) return;
+        String s = model.written(all.get(random.nextInt(all.size())));
+        if (!model.text.isEmpty()) s = " " + s;
+        if (oneIn(8)) s = s + "+";
+        if (oneIn(8)) s = s.substring(0, s.length() - 1);
+        for (char c : s.toCharArray()) pair.call("type", c);
+    }
+}
