@@ -481,8 +481,35 @@ public final class DropChase {
 
         boolean canBeRaised(int man, int from, int to) {
             int type = man - 1 & 15;
-            int ofSide = (man - 1 >> 4) * fields;
+            int ofSide = man > 16 ? fields : 0;
             return type < 8 && (steps[type + 8] | runs[type + 8]) != 0 && (zone[ofSide + from] || zone[ofSide + to]);
+        }
+    }
+
+    /** What an item tells of a man. */
+    private static final class Man {
+        static final int RAISED = 8;
+
+        static int itemOf(int side, int kind) {
+            return 1 + kind + 16 * side;
+        }
+
+        /** NONE for an empty FIELD. */
+        static int sideOf(int item) {
+            return (item + 15 >> 4) - 1;
+        }
+
+        static int kindOf(int item) {
+            return item - 1 & 7;
+        }
+
+        /** The KIND, 8 more if RAISED. */
+        static int typeOf(int item) {
+            return item - 1 & 15;
+        }
+
+        static boolean isRaised(int item) {
+            return item != 0 && (item - 1 & RAISED) != 0;
         }
     }
 
@@ -526,7 +553,7 @@ public final class DropChase {
 
         static int takenKindOf(int code) {
             int taken = code >> 16;
-            return taken == 0 ? NONE : taken - 1 & 7;
+            return taken == 0 ? NONE : Man.kindOf(taken);
         }
     }
 
@@ -556,8 +583,7 @@ public final class DropChase {
             for (int f = 0; f < fields; f++) {
                 int item = lines.told(f / n, f % n);
                 if (item < 0 || item > 32) return NONE;
-                boolean raised = item != 0 && (item - 1 & 8) != 0;
-                if (raised && !ways.hasRaised(item - 1 & 7)) return NONE;
+                if (Man.isRaised(item) && !ways.hasRaised(Man.kindOf(item))) return NONE;
                 cells[f] = item;
                 if (item != 0) men++;
             }
@@ -566,16 +592,15 @@ public final class DropChase {
 
         /** Whether each SIDE has just one KING. */
         boolean findKings() {
-            int[] at = kings;
-            at[0] = NONE;
-            at[1] = NONE;
+            kings[0] = NONE;
+            kings[1] = NONE;
             for (int f = 0; f < fields; f++) {
-                if (cells[f] == 0 || (cells[f] - 1 & 7) != 0) continue;
-                int side = cells[f] - 1 >> 4;
-                if (at[side] != NONE) return false;
-                at[side] = f;
+                if (cells[f] == 0 || Man.kindOf(cells[f]) != 0) continue;
+                int side = Man.sideOf(cells[f]);
+                if (kings[side] != NONE) return false;
+                kings[side] = f;
             }
-            return at[0] != NONE && at[1] != NONE;
+            return kings[0] != NONE && kings[1] != NONE;
         }
 
         int withTaken(int code) {
@@ -583,7 +608,7 @@ public final class DropChase {
         }
 
         int moverKind(int code) {
-            return Move.isSetting(code) ? code >> 13 & 7 : cells[code >> 6 & 63] - 1 & 7;
+            return Move.isSetting(code) ? Move.setKindOf(code) : Man.kindOf(cells[Move.fromOf(code)]);
         }
 
         void apply(int code) {
@@ -591,15 +616,15 @@ public final class DropChase {
             int from = code >> 6 & 63;
             if (from == Move.OUTSIDE) {
                 int kind = code >> 13 & 7;
-                cells[to] = 1 + kind + 16 * mover;
+                cells[to] = Man.itemOf(mover, kind);
                 hands[8 * mover + kind]--;
             } else {
                 int man = cells[from];
                 int taken = code >> 16;
                 cells[from] = 0;
-                cells[to] = (code & Move.RAISE) != 0 ? man + 8 : man;
-                if (taken != 0) hands[8 * mover + (taken - 1 & 7)]++;
-                if ((man - 1 & 7) == 0) kings[mover] = to;
+                cells[to] = (code & Move.RAISE) != 0 ? man + Man.RAISED : man;
+                if (taken != 0) hands[8 * mover + Man.kindOf(taken)]++;
+                if (Man.kindOf(man) == 0) kings[mover] = to;
             }
             mover = 1 - mover;
         }
@@ -612,12 +637,12 @@ public final class DropChase {
                 cells[to] = 0;
                 hands[8 * mover + (code >> 13 & 7)]++;
             } else {
-                int man = (code & Move.RAISE) != 0 ? cells[to] - 8 : cells[to];
+                int man = (code & Move.RAISE) != 0 ? cells[to] - Man.RAISED : cells[to];
                 int taken = code >> 16;
                 cells[from] = man;
                 cells[to] = taken;
-                if (taken != 0) hands[8 * mover + (taken - 1 & 7)]--;
-                if ((man - 1 & 7) == 0) kings[mover] = from;
+                if (taken != 0) hands[8 * mover + Man.kindOf(taken)]--;
+                if (Man.kindOf(man) == 0) kings[mover] = from;
             }
         }
 
@@ -633,28 +658,24 @@ public final class DropChase {
                 int coming = Ways.TURNED[d];
                 int far = d < Ways.ROUND ? n : 2;
                 int man = cells[at];
-                if (isOf(man, side) && (ways.stepDirections[man] >> coming & 1) != 0) return true;
+                if (Man.sideOf(man) == side && (ways.stepDirections[man] >> coming & 1) != 0) return true;
                 for (int step = 2; step < far && man == 0; step++) {
                     at = ways.next[d * fields + at];
                     if (at < 0) break;
                     man = cells[at];
                 }
-                if (isOf(man, side) && (ways.runDirections[man] >> coming & 1) != 0) return true;
+                if (Man.sideOf(man) == side && (ways.runDirections[man] >> coming & 1) != 0) return true;
             }
             return false;
-        }
-
-        private static boolean isOf(int man, int side) {
-            return man != 0 && man - 1 >> 4 == side;
         }
 
         /** Fills in the FIELDS that the man on a FIELD REACHES, each once, in order: how many. */
         int reach(int from) {
             int man = cells[from];
             if (man == 0) return 0;
-            int side = man - 1 >> 4;
-            int steps = ways.steps[man - 1 & 15];
-            int runs = ways.runs[man - 1 & 15];
+            int side = Man.sideOf(man);
+            int steps = ways.steps[Man.typeOf(man)];
+            int runs = ways.runs[Man.typeOf(man)];
             int many = 0;
             for (int bit = 0; bit < Ways.STEP_BITS; bit++) {
                 if ((steps >> bit & 1) == 0) continue;
@@ -712,8 +733,7 @@ public final class DropChase {
             int end = segment * width;
             int mover = table.mover;
             for (int f = 0; f < ways.fields; f++) {
-                int man = table.cells[f];
-                if (man != 0 && man - 1 >> 4 == mover) end = addGoings(f, table.reach(f), end);
+                if (Man.sideOf(table.cells[f]) == mover) end = addGoings(f, table.reach(f), end);
             }
             for (int kind = 1; kind < 8; kind++) {
                 if (table.hands[8 * mover + kind] > 0) end = addSettings(kind, end);
@@ -724,11 +744,11 @@ public final class DropChase {
         private int addGoings(int from, int many, int start) {
             int end = start;
             int man = table.cells[from];
-            boolean raised = (man - 1 & 8) != 0;
+            boolean raised = Man.isRaised(man);
             for (int i = 0; i < many; i++) {
                 int to = table.reached[i];
                 int taken = table.cells[to];
-                if (taken != 0 && taken - 1 >> 4 == table.mover) continue;
+                if (Man.sideOf(taken) == table.mover) continue;
                 int code = taken << 16 | from << 6 | to;
                 if (raised || ways.goesOn(man, to)) list[end++] = code;
                 if (ways.canBeRaised(man, from, to)) list[end++] = code | Move.RAISE;
@@ -738,20 +758,20 @@ public final class DropChase {
 
         private int addSettings(int kind, int start) {
             int end = start;
-            int man = 1 + kind + 16 * table.mover;
-            int shut = columnsShutTo(man);
+            int man = Man.itemOf(table.mover, kind);
+            int shut = columnsShutTo(kind, man);
             int column = 0;
             for (int f = 0; f < ways.fields; f++) {
                 boolean free = table.cells[f] == 0 && (shut >> column & 1) == 0;
-                if (free && ways.goesOn(man, f)) list[end++] = kind << 13 | Move.OUTSIDE << 6 | f;
+                if (free && ways.goesOn(man, f)) list[end++] = Move.setting(kind, f);
                 column = column + 1 < ways.n ? column + 1 : 0;
             }
             return end;
         }
 
         /** The columns, as bits, in which MARK 1 forbids to set a man. */
-        private int columnsShutTo(int man) {
-            if ((ways.marks[man - 1 & 7] & FIRST_MARK) == 0) return 0;
+        private int columnsShutTo(int kind, int man) {
+            if ((ways.marks[kind] & FIRST_MARK) == 0) return 0;
             int shut = 0;
             for (int f = 0; f < ways.fields; f++) {
                 if (table.cells[f] == man) shut |= 1 << f % ways.n;
@@ -761,16 +781,26 @@ public final class DropChase {
 
         /** Lists the lawful MOVES: how many. */
         int listLawful(int segment) {
+            boolean calm = !table.inCheck(table.mover);
             int start = segment * width;
             int filled = fill(segment);
             int end = start;
             for (int i = start; i < filled; i++) {
                 int code = list[i];
-                table.apply(code);
-                if (holds(code)) list[end++] = code;
-                table.revert(code);
+                // A SETTING opens no way to a KING, and most lists are mostly SETTINGS.
+                boolean lawful = calm && Move.isSetting(code) && !hasSecondMark(code);
+                if (!lawful) {
+                    table.apply(code);
+                    lawful = !table.inCheck(1 - table.mover) && !isForbiddenMate(code);
+                    table.revert(code);
+                }
+                if (lawful) list[end++] = code;
             }
             return end - start;
+        }
+
+        private boolean hasSecondMark(int setting) {
+            return (ways.marks[setting >> 13 & 7] & SECOND_MARK) != 0;
         }
 
         /** Whether a filled MOVE that has just been applied is lawful. */
@@ -781,8 +811,7 @@ public final class DropChase {
         /** Whether what has just been applied is a SETTING with MARK 2 that is MATE at once. */
         private boolean isForbiddenMate(int code) {
             int side = table.mover;
-            boolean asked = Move.isSetting(code) && (ways.marks[code >> 13 & 7] & SECOND_MARK) != 0;
-            if (!asked || !table.inCheck(side)) return false;
+            if (!Move.isSetting(code) || !hasSecondMark(code) || !table.inCheck(side)) return false;
             int end = fill(OF_MATES);
             for (int i = startOf(OF_MATES); i < end; i++) {
                 int answer = list[i];
@@ -812,12 +841,11 @@ public final class DropChase {
             int to = code & 63;
             int man = table.cells[from];
             int there = table.cells[to];
-            if (man == 0 || man - 1 >> 4 != table.mover) return 1;
+            if (Man.sideOf(man) != table.mover) return 1;
             if (!reaches(from, to)) return 2;
-            if (there != 0 && there - 1 >> 4 == table.mover) return 3;
+            if (Man.sideOf(there) == table.mover) return 3;
             if (Move.raises(code)) return ways.canBeRaised(man, from, to) ? 0 : 4;
-            boolean raised = (man - 1 & 8) != 0;
-            return raised || ways.goesOn(man, to) ? 0 : 5;
+            return Man.isRaised(man) || ways.goesOn(man, to) ? 0 : 5;
         }
 
         private boolean reaches(int from, int to) {
@@ -829,22 +857,22 @@ public final class DropChase {
         }
 
         private int faultOfSetting(int kind, int f) {
-            int man = 1 + kind + 16 * table.mover;
+            int man = Man.itemOf(table.mover, kind);
             if (table.hands[8 * table.mover + kind] <= 0) return 1;
             if (table.cells[f] != 0) return 2;
             if (!ways.goesOn(man, f)) return 3;
-            return (columnsShutTo(man) >> f % ways.n & 1) != 0 ? 4 : 0;
+            return (columnsShutTo(kind, man) >> f % ways.n & 1) != 0 ? 4 : 0;
         }
 
         /** How many rows of so many MOVES there are; counting ends as soon as there are more than most. */
         private int countRows(int many, int segment, int most) {
-            if (many <= 0 || segment >= SEGMENTS) return 1;
-            int end = fill(segment);
+            int first = listLawful(segment);
+            if (many <= 1 || segment + 1 >= SEGMENTS) return first;
             int count = 0;
-            for (int i = startOf(segment); i < end && count <= most; i++) {
-                int code = list[i];
+            for (int i = 0; i < first && count <= most; i++) {
+                int code = listed(segment, i);
                 table.apply(code);
-                if (holds(code)) count += countRows(many - 1, segment + 1, most - count);
+                count += countRows(many - 1, segment + 1, most - count);
                 table.revert(code);
             }
             return count;

@@ -16,9 +16,9 @@ public final class ModelRunsTest {
     }
 
     public static void main(String[] args) {
-        int runs = args.length > 0 ? Integer.parseInt(args[0]) : 300;
+        int runs = args.length > 0 ? Integer.parseInt(args[0]) : 250;
         int first = args.length > 1 ? Integer.parseInt(args[1]) : 1;
-        for (int seed = first; seed < first + runs; seed++) new ModelRunsTest(seed).run();
+        for (int seed = first; seed < first + runs; seed++) new ModelRunsTest(seed).runUntilUsed();
         System.out.println("seen: " + SEEN);
         System.out.println(Pair.calls + " calls, " + Pair.wrong + " runs went wrong");
         if (Pair.wrong != 0) System.exit(1);
@@ -40,19 +40,28 @@ public final class ModelRunsTest {
         return oneIn(25) ? upTo(n * n + 6) - 3 : random.nextInt(n * n);
     }
 
+    private void runUntilUsed() {
+        try {
+            run();
+        } catch (Pair.Used used) {
+            seen("used up");
+        }
+    }
+
     private void run() {
-        for (int round = 0; round < 3 && pair.made() < 380; round++) {
+        for (int round = 0; round < 4; round++) {
             if (oneIn(3)) tellKinds();
             if (oneIn(3)) scribbleLines();
-            if (!setUp()) continue;
+            if (oneIn(6)) wild();
+            if (pair.model.now == null && !setUp()) continue;
             int style = upTo(3);
             if (style == 0) chase();
             else if (style == 1) wander();
             else if (style == 2) repeatStands();
             else askAll();
-            texts();
-            if (pair.made() > 480) return;
-            pair.call("digest");
+            if (oneIn(3)) wild();
+            if (pair.model.now != null) texts();
+            pair.longCall("digest");
             seen("clear " + Math.min(1, pair.call("clear")));
             pair.longCall("digest");
         }
@@ -151,6 +160,24 @@ public final class ModelRunsTest {
         for (int to : pair.model.reach(pair.model.now.board, man, from)) {
             seen("why " + pair.call("why", from, to, 0));
             seen("why " + pair.call("why", from, to, 1));
+        }
+    }
+
+    /** Any call with any numbers; none of them may throw, and all are answered as the model does. */
+    private void wild() {
+        String[] calls = {
+            "kind 6", "line 3", "lose 1", "put 4", "get 3", "copy 5", "hand 3", "stand 1", "field 1", "has 2",
+            "attacks 2", "check 1", "moves 0", "move 2", "why 3", "whySet 2", "rows 1", "go 1", "back 0", "forth 0",
+            "play 1", "fuel 1", "hunt 1", "spent 0", "tree 0", "node 2", "forge 5", "verify 0", "write 0", "type 1",
+            "wipe 0", "letter 1", "read 0", "finding 0", "digest 0", "clear 0"};
+        int[] numbers = {
+            Integer.MIN_VALUE, Integer.MAX_VALUE, -1000, -2, -1, 0, 1, 2, 3, 4, 5, 6, 7, 8, 9, 12, 13, 24, 25, 48, 49,
+            63, 64, 255, 256, 1000, 1001, 1023, 1024, 65536, 1 << 30, n * n - 1, n * n};
+        for (int i = 5 + upTo(20); i > 0; i--) {
+            String[] call = calls[random.nextInt(calls.length - (oneIn(4) ? 0 : 1))].split(" ");
+            int[] a = new int[Integer.parseInt(call[1])];
+            for (int j = 0; j < a.length; j++) a[j] = oneIn(2) ? numbers[random.nextInt(numbers.length)] : upTo(9) - 1;
+            pair.longCall(call[0], a);
         }
     }
 
