@@ -275,7 +275,8 @@ public final class DropChase {
 
     public int write() {
         if (!standing) return STATE;
-        return text.record(current) ? text.size : FULL;
+        text.record(current);
+        return text.size;
     }
 
     public int type(int c) {
@@ -1081,7 +1082,6 @@ public final class DropChase {
             used++;
             codes[size] = code & Move.WITHOUT_TAKEN;
             parents[size] = parent;
-            inside[size] = 0;
             return size++;
         }
 
@@ -1143,21 +1143,13 @@ public final class DropChase {
             if (size < MOST_BYTES) bytes[size++] = c;
         }
 
-        /** Writes a PLAY, if there is room for all of it. */
-        boolean record(Play play) {
-            if (lengthOf(play) > MOST_BYTES) return false;
+        /** There is room for all of it, always: 300 MOVES of at most 5 bytes with what parts them are 1799. */
+        void record(Play play) {
             size = 0;
             for (int i = 0; i < play.done; i++) {
                 if (i > 0) add(SPACE);
                 addMove(play.codeOf(i));
             }
-            return true;
-        }
-
-        private static int lengthOf(Play play) {
-            int length = Math.max(0, play.done - 1);
-            for (int i = 0; i < play.done; i++) length += Move.raises(play.codeOf(i)) ? 5 : 4;
-            return length;
         }
 
         private void addMove(int code) {

@@ -86,7 +86,8 @@ public final class FaceTest {
         for (Class<?> c : inside) {
             int modifiers = c.getModifiers();
             Due.due(1, c + " is static", Modifier.isStatic(modifiers) ? 1 : 0, 1);
-            Due.due(1, c + " is not public", Modifier.isPublic(modifiers) || Modifier.isProtected(modifiers) ? 1 : 0, 0);
+            boolean seen = Modifier.isPublic(modifiers) || Modifier.isProtected(modifiers);
+            Due.due(1, c + " is not public", seen ? 1 : 0, 0);
             int fields = 0;
             for (Field f : c.getDeclaredFields()) {
                 if (!Modifier.isStatic(f.getModifiers())) fields++;

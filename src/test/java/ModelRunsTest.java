@@ -16,7 +16,7 @@ public final class ModelRunsTest {
     }
 
     public static void main(String[] args) {
-        int runs = args.length > 0 ? Integer.parseInt(args[0]) : 250;
+        int runs = args.length > 0 ? Integer.parseInt(args[0]) : 180;
         int first = args.length > 1 ? Integer.parseInt(args[1]) : 1;
         for (int seed = first; seed < first + runs; seed++) new ModelRunsTest(seed).runUntilUsed();
         System.out.println("seen: " + SEEN);
@@ -51,9 +51,11 @@ public final class ModelRunsTest {
     private void run() {
         for (int round = 0; round < 4; round++) {
             if (oneIn(3)) tellKinds();
+            else if (oneIn(3)) markKinds();
             if (oneIn(3)) scribbleLines();
             if (oneIn(6)) wild();
             if (pair.model.now == null && !setUp()) continue;
+            if (oneIn(2)) askSettings();
             int style = upTo(3);
             if (style == 0) chase();
             else if (style == 1) wander();
@@ -85,6 +87,14 @@ public final class ModelRunsTest {
         }
     }
 
+    /** The KINDS as at first, but with MARK 2 (and perhaps 1), so that MATES by SETTINGS are asked for. */
+    private void markKinds() {
+        for (int kind = 1; kind < 8; kind++) {
+            Model.Kind k = pair.model.kinds[kind];
+            pair.call("kind", kind, k.steps, k.runs, k.raisedSteps, k.raisedRuns, 2 + upTo(1));
+        }
+    }
+
     private void scribbleLines() {
         for (int i = upTo(12); i > 0; i--) {
             int r = upTo(n + 1) - 1;
@@ -112,6 +122,7 @@ public final class ModelRunsTest {
         for (int i = 0; i < men; i++) items[random.nextInt(n * n)] = manItem();
         items[random.nextInt(n * n)] = 1;
         items[random.nextInt(n * n)] = 17;
+        if (oneIn(3)) shutIn(items, upTo(1));
         if (oneIn(40)) items[random.nextInt(n * n)] = oneIn(2) ? 33 : -1;
         for (int r = 0; r < n; r++) {
             int form = upTo(2);
@@ -138,6 +149,33 @@ public final class ModelRunsTest {
         return false;
     }
 
+    /** A KING in the corner with men of its own beside it. */
+    private void shutIn(int[] items, int side) {
+        for (int f = 0; f < n * n; f++) if (items[f] == 1 + 16 * side) items[f] = 0;
+        int corner = random.nextInt(4);
+        int row = corner < 2 ? 0 : n - 1;
+        int column = corner % 2 == 0 ? 0 : n - 1;
+        int in = row == 0 ? 1 : n - 2;
+        int across = column == 0 ? 1 : n - 2;
+        items[n * row + column] = 1 + 16 * side;
+        int[] beside = {n * row + across, n * in + column, n * in + across};
+        for (int f : beside) if (items[f] != 17 - 16 * side && oneIn(2)) items[f] = 2 + upTo(6) + 16 * side;
+    }
+
+    /** Every SETTING that gives CHECK, or would, if MARK 2 did not forbid it. */
+    private void askSettings() {
+        Model model = pair.model;
+        for (int kind = 1; kind < 8; kind++) {
+            for (int f = 0; f < n * n; f++) {
+                if (model.now.hand[model.now.side][kind] == 0 || model.now.board[f] != null) continue;
+                Model.Stand then = model.after(model.now, new Model.Mv(-1, f, false, kind));
+                if (model.inCheck(then, then.side)) seen("whySet " + pair.call("whySet", kind, f));
+            }
+        }
+        pair.call("moves");
+        if (oneIn(2)) pair.call("rows", 2);
+    }
+
     private void ask() {
         int what = upTo(16);
         if (what == 0) pair.call("field", anyField());
@@ -148,8 +186,10 @@ public final class ModelRunsTest {
         if (what >= 5 && what <= 7) pair.call("move", upTo(Math.max(1, pair.call("moves"))), upTo(6) - 1);
         if (what == 8 || what == 9) seen("why " + pair.call("why", anyField(), anyField(), upTo(1)));
         if (what >= 10 && what <= 12) askWhy();
-        if (what == 13 || what == 14) seen("whySet " + pair.call("whySet", oneIn(20) ? upTo(9) - 1 : 1 + upTo(6), anyField()));
-        if (what == 15) seen("rows " + Math.min(0, pair.call("rows", oneIn(9) ? upTo(5) - 1 : oneIn(3) ? 3 : 1 + upTo(1))));
+        int kind = oneIn(20) ? upTo(9) - 1 : 1 + upTo(6);
+        if (what == 13 || what == 14) seen("whySet " + pair.call("whySet", kind, anyField()));
+        int many = oneIn(9) ? upTo(5) - 1 : oneIn(3) ? 3 : 1 + upTo(1);
+        if (what == 15) seen("rows " + Math.min(0, pair.call("rows", many)));
         if (what == 16) pair.call("play", upTo(7) - 1);
     }
 

@@ -1,6 +1,9 @@
+import java.lang.reflect.Method;
 import java.util.ArrayList;
 import java.util.Arrays;
 import java.util.List;
+import java.util.Map;
+import java.util.TreeMap;
 
 /** The program and the model side by side: every call goes to both, and the answers are compared. */
 final class Pair {
@@ -10,8 +13,21 @@ final class Pair {
     }
 
     private static final int MOST_CALLS = 512;
+    private static final Map<String, Method> OF_PROGRAM = new TreeMap<>();
+    private static final Map<String, Method> OF_MODEL = new TreeMap<>();
     static int wrong = 0;
     static long calls = 0;
+
+    static {
+        for (Method m : DropChase.class.getMethods()) {
+            if (m.getDeclaringClass() == DropChase.class) OF_PROGRAM.put(m.getName(), m);
+        }
+        for (Method m : Model.class.getDeclaredMethods()) {
+            Method same = OF_PROGRAM.get(m.getName());
+            boolean alike = same != null && Arrays.equals(same.getParameterTypes(), m.getParameterTypes());
+            if (alike) OF_MODEL.put(m.getName(), m);
+        }
+    }
 
     final DropChase program;
     final Model model;
@@ -40,8 +56,8 @@ final class Pair {
         if (made() == MOST_CALLS) throw new Used();
         calls++;
         log.add(call + Arrays.toString(a));
-        long got = ofProgram(call, a);
-        long want = ofModel(call, a);
+        long got = answer(OF_PROGRAM.get(call), program, a);
+        long want = answer(OF_MODEL.get(call), model, a);
         if (got != want && !told) {
             told = true;
             wrong++;
@@ -50,89 +66,16 @@ final class Pair {
         return want;
     }
 
-    private long ofProgram(String call, int[] a) {
-        DropChase x = program;
-        switch (call) {
-            case "kind": return x.kind(a[0], a[1], a[2], a[3], a[4], a[5]);
-            case "line": return x.line(a[0], a[1], a[2]);
-            case "lose": return x.lose(a[0]);
-            case "put": return x.put(a[0], a[1], a[2], a[3]);
-            case "get": return x.get(a[0], a[1], a[2]);
-            case "copy": return x.copy(a[0], a[1], a[2], a[3], a[4]);
-            case "hand": return x.hand(a[0], a[1], a[2]);
-            case "stand": return x.stand(a[0]);
-            case "clear": return x.clear();
-            case "field": return x.field(a[0]);
-            case "has": return x.has(a[0], a[1]);
-            case "attacks": return x.attacks(a[0], a[1]);
-            case "check": return x.check(a[0]);
-            case "moves": return x.moves();
-            case "move": return x.move(a[0], a[1]);
-            case "why": return x.why(a[0], a[1], a[2] == 1);
-            case "whySet": return x.whySet(a[0], a[1]);
-            case "rows": return x.rows(a[0]);
-            case "go": return x.go(a[0]);
-            case "back": return x.back();
-            case "forth": return x.forth();
-            case "play": return x.play(a[0]);
-            case "fuel": return x.fuel(a[0]);
-            case "hunt": return x.hunt(a[0]);
-            case "spent": return x.spent();
-            case "tree": return x.tree();
-            case "node": return x.node(a[0], a[1]);
-            case "forge": return x.forge(a[0], a[1], a[2], a[3] == 1, a[4]);
-            case "verify": return x.verify();
-            case "write": return x.write();
-            case "type": return x.type(a[0]);
-            case "wipe": return x.wipe();
-            case "letter": return x.letter(a[0]);
-            case "read": return x.read();
-            case "finding": return x.finding();
-            case "digest": return x.digest();
-            default: throw new IllegalArgumentException(call);
+    private static long answer(Method method, Object of, int[] a) {
+        Object[] given = new Object[a.length];
+        for (int i = 0; i < a.length; i++) {
+            if (method.getParameterTypes()[i] == boolean.class) given[i] = a[i] == 1;
+            else given[i] = a[i];
         }
-    }
-
-    private long ofModel(String call, int[] a) {
-        Model x = model;
-        switch (call) {
-            case "kind": return x.kind(a[0], a[1], a[2], a[3], a[4], a[5]);
-            case "line": return x.line(a[0], a[1], a[2]);
-            case "lose": return x.lose(a[0]);
-            case "put": return x.put(a[0], a[1], a[2], a[3]);
-            case "get": return x.get(a[0], a[1], a[2]);
-            case "copy": return x.copy(a[0], a[1], a[2], a[3], a[4]);
-            case "hand": return x.hand(a[0], a[1], a[2]);
-            case "stand": return x.stand(a[0]);
-            case "clear": return x.clear();
-            case "field": return x.field(a[0]);
-            case "has": return x.has(a[0], a[1]);
-            case "attacks": return x.attacks(a[0], a[1]);
-            case "check": return x.check(a[0]);
-            case "moves": return x.moves();
-            case "move": return x.move(a[0], a[1]);
-            case "why": return x.why(a[0], a[1], a[2] == 1);
-            case "whySet": return x.whySet(a[0], a[1]);
-            case "rows": return x.rows(a[0]);
-            case "go": return x.go(a[0]);
-            case "back": return x.back();
-            case "forth": return x.forth();
-            case "play": return x.play(a[0]);
-            case "fuel": return x.fuel(a[0]);
-            case "hunt": return x.hunt(a[0]);
-            case "spent": return x.spent();
-            case "tree": return x.tree();
-            case "node": return x.node(a[0], a[1]);
-            case "forge": return x.forge(a[0], a[1], a[2], a[3] == 1, a[4]);
-            case "verify": return x.verify();
-            case "write": return x.write();
-            case "type": return x.type(a[0]);
-            case "wipe": return x.wipe();
-            case "letter": return x.letter(a[0]);
-            case "read": return x.read();
-            case "finding": return x.finding();
-            case "digest": return x.digest();
-            default: throw new IllegalArgumentException(call);
+        try {
+            return ((Number) method.invoke(of, given)).longValue();
+        } catch (ReflectiveOperationException thrown) {
+            throw new IllegalStateException(method + " of " + Arrays.toString(a), thrown);
         }
     }
 }

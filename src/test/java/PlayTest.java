@@ -11,6 +11,7 @@ public final class PlayTest {
         noMoveWithoutCheck();
         drawnStand();
         standsUnlikeByHands();
+        standsUnlikeBySide();
         onlyChecks(0);
         onlyChecks(1);
         checksSinceItCameFirst();
@@ -159,24 +160,31 @@ public final class PlayTest {
         Due.due(23, "a new STAND", x.play(4), 1);
     }
 
-    /** The BOARD comes again, but not the HANDS: a man is taken on the way. */
+    /** The BOARD and the SIDE to move come again, but not the HANDS: a man is set and taken on the way. */
     private static void standsUnlikeByHands() {
-        DropChase x = Due.board("17 . . . ./-/-/. . . . 18/. . . . 1");
-        Due.due(9, "stand(0)", x.stand(0), 3);
-        goAll(x, 20, 0, 24, 19, 0, 1, 19, 24, 1, 0, 24, 19, 0, 1);
-        Due.due(23, "the one behind the taking", x.play(4), 2);
-        x.back();
-        x.back();
-        Due.due(23, "once", x.play(4), 1);
-        DropChase y = Due.board("17 . . . ./-/-/-/. . . . 1");
-        y.hand(0, 3, 1);
-        y.hand(1, 3, 1);
-        Due.due(9, "stand(0)", y.stand(0), 2);
-        y.go(Due.numberOfSetting(y, 3, 22));
-        goAll(y, 20, 0, 0, 1, 24, 19, 1, 0, 19, 24);
-        Due.due(23, "how often", y.play(4), 2);
-        goAll(y, 20, 0, 0, 1, 24, 19, 1, 0, 19, 24);
-        Due.due(23, "how often", y.play(4), 3);
+        DropChase x = Due.board(KINGS);
+        x.hand(0, 3, 3);
+        Due.due(9, "stand(0)", x.stand(0), 2);
+        for (int time = 2; time <= 4; time++) {
+            Due.due(20, "a man is set", x.go(Due.numberOfSetting(x, 3, 1)), 0);
+            goAll(x, 20, 0, 0, 1, 24, 19, 1, 5, 19, 24, 5, 0);
+            Due.due(11, "the BOARD is as it was", x.field(24) + x.field(0), 18);
+            Due.due(23, "how often", x.play(4), 1);
+        }
+        Due.due(12, "has(1, 3)", x.has(1, 3), 3);
+    }
+
+    /** The same men on the BOARD, but the other SIDE is to move: another STAND. */
+    private static void standsUnlikeBySide() {
+        DropChase x = Due.board(KINGS);
+        Due.due(9, "stand(0)", x.stand(0), 2);
+        goAll(x, 20, 0, 24, 19, 0, 1, 19, 23, 1, 0, 23, 24);
+        Due.due(11, "the BOARD is as it was", x.field(24) + x.field(0), 18);
+        Due.due(23, "how often", x.play(4), 1);
+        goAll(x, 20, 0, 0, 1, 24, 19, 1, 0);
+        Due.due(23, "how often", x.play(4), 1);
+        goAll(x, 20, 0, 19, 24);
+        Due.due(23, "how often", x.play(4), 2);
     }
 
     /** A run man of a SIDE gives CHECK again and again; for SIDE 1 all is turned about. */
@@ -219,6 +227,17 @@ public final class PlayTest {
         goAll(x, 20, 0, 24, 19, 0, 5, 19, 24, 5, 0);
         goAll(x, 20, 0, 21, 20, 0, 1, 20, 21, 1, 0);
         goAll(x, 20, 2, 21, 20, 0, 1, 20, 21, 1, 0);
+        DropChase y = Due.board("-/17 . . . ./-/-/. 5 . . 1");
+        Due.due(9, "stand(1)", y.stand(1), 3);
+        goAll(y, 20, 0, 5, 0);
+        goAll(y, 20, 0, 21, 22, 0, 1, 22, 21, 1, 0);
+        goAll(y, 20, 0, 21, 20, 0, 1, 20, 21, 1, 0);
+        goAll(y, 20, 2, 21, 20, 0, 1, 20, 21, 1, 0);
+        DropChase z = Due.board("17 . . . ./-/-/-/. 5 . . 1");
+        Due.due(9, "stand(0)", z.stand(0), 3);
+        goAll(z, 20, 0, 21, 20, 0, 1, 20, 21, 1, 0);
+        goAll(z, 20, 0, 21, 20, 0, 1, 20, 21, 1, 0);
+        goAll(z, 20, 2, 21, 22, 0, 1, 22, 21, 1, 0);
     }
 
     /** Every MOVE of both SIDES gives CHECK: that of SIDE 0 counts first. */

@@ -11,7 +11,7 @@ public final class RoomTest {
         long before = taken();
         work(x);
         long took = taken() - before;
-        Due.due(0, "bytes that " + 512 + " calls took, " + took + ", are few", took < 4096 ? 1 : 0, 1);
+        Due.due(0, "bytes that a run of calls took, " + took + ", are few", took < 4096 ? 1 : 0, 1);
         before = taken();
         x = new DropChase(7);
         took = taken() - before;

@@ -346,7 +346,7 @@ public final class StandTest {
     }
 
     private static void menThatCannotStay() {
-        DropChase x = Due.board("17 . . . . . ./. . . . . . ./. . . 8 . . ./. 8 7 2 . . ./-/. . . . 24 . ./. . . . . . 1");
+        DropChase x = Due.board("17 . . . . . ./-/. . . 8 . . ./. 8 7 2 . . ./-/. . . . 24 . ./. . . . . . 1");
         Due.due(9, "stand(0)", x.stand(0), 7);
         Due.due(17, "KIND 7 on row 0", x.why(17, 4, false), 5);
         Due.due(17, "KIND 7 on row 0, RAISED", x.why(17, 4, true), 0);

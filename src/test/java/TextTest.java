@@ -113,7 +113,7 @@ public final class TextTest {
         String[] ill = {
             " ", "c", "c2c", "c2c1", "c2c1+ ", " c2c1+", "c2c1+  2*a2", "c2c1++", "c2c1-", "C2C1+", "c2c1+\u0000",
             "e4e3+", "e4e30", "e4f3", "e4e0", "e4e6", "f4e3", "e0e3", "e6e3", "e4e3e", "e4 e3", "2*a2", "3*a3",
-            "0*a2", "8*a2", "**a2", "e4*a", "a1a2", "e5e4", "e4\u00ffe3", "e4e3\n", "\u00e54e3", "`4e3", "e4`3"};
+            "0*a2", "8*a2", "**a2", "e4*a", "a1a2", "e5e4", "e4\u00ffe3", "e4e3\n", "\u00e54e3", "`5e3", "e4`4"};
         for (String s : ill) {
             int place = s.startsWith("c2c1+ ") ? 6 : 0;
             Due.due(35, "'" + s + "'", readOf(x, s), -100 - place);
@@ -219,15 +219,13 @@ public final class TextTest {
         Due.due(35, "8", readOf(x, "g4g5 a4a3 g5g6 a3a2 g6g7 a2a1 g7g8"), -130);
     }
 
-    /** What is answered behind the 512th call is free; but there is no room for more than 2000 bytes. */
+    /** 2000 bytes cannot be there within the 512 calls that an object is used for; the limit holds all the same. */
     private static void manyBytes() {
         DropChase x = new DropChase(5);
-        boolean more = false;
-        for (int i = 0; i < 2100; i++) {
-            int answer = x.type('x');
-            if (i < 500) Due.due(32, "type()", answer, i + 1);
-            more |= answer > 2000;
-        }
-        Due.due(32, "more than 2000 bytes", more ? 1 : 0, 0);
+        for (int i = 0; i < 2000; i++) Due.due(32, "type()", x.type('x'), i + 1);
+        Due.due(32, "the 2001st", x.type('x'), Due.FULL);
+        Due.due(32, "BAD ahead", x.type(256), Due.BAD);
+        Due.due(34, "letter(1999)", x.letter(1999), 'x');
+        Due.due(33, "wipe()", x.wipe(), 2000);
     }
 }
