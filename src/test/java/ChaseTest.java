@@ -330,6 +330,8 @@ public final class ChaseTest {
             Due.due(30, "as it was", x.verify(), 0);
         }
         x.forge(0, 13, 12, false, 0);
+        Due.due(30, "no MOVE: CHECK behind it", x.verify(), 1);
+        x.forge(0, 21, 15, false, 0);
         Due.due(30, "a MOVE that gives no CHECK", x.verify(), 1);
         x.forge(0, -1, 1, false, 4);
         Due.due(30, "a CHECK with other answers: not as many", x.verify(), 1);

@@ -66,6 +66,11 @@ final class Pair {
         return want;
     }
 
+    /** A call of the program alone, by its name. */
+    static long ask(DropChase x, String call, int... a) {
+        return answer(OF_PROGRAM.get(call), x, a);
+    }
+
     private static long answer(Method method, Object of, int[] a) {
         Object[] given = new Object[a.length];
         for (int i = 0; i < a.length; i++) {

@@ -1,5 +1,3 @@
-import java.util.List;
-
 /** Promises 20 to 23 and 37: plays forth and back, stands that come again, the digest. */
 public final class PlayTest {
     private static final String KINGS = "17 . . . ./-/-/-/. . . . 1";
@@ -261,7 +259,7 @@ public final class PlayTest {
         Due.due(9, "stand(0)", pair.call("stand", 0), 2);
         int wrong = 0;
         for (int i = 0; i < 300; i++) {
-            if (pair.call("go", firstThatIsNew(pair.model)) != 0) wrong++;
+            if (pair.call("go", Walk.firstThatIsNew(pair.model)) != 0) wrong++;
         }
         Due.due(20, "answers unlike the model's", Pair.wrong, 0);
         DropChase x = pair.program;
@@ -283,17 +281,6 @@ public final class PlayTest {
         Due.due(35, "the 301st", x.read(), -1600);
         Due.due(35, "THE PLAY stays", x.play(2), 300);
         Due.due(10, "clear()", x.clear(), 300);
-    }
-
-    private static int firstThatIsNew(Model model) {
-        List<Model.Mv> all = model.movesOf(model.now);
-        for (int i = 0; i < all.size(); i++) {
-            String then = model.after(model.now, all.get(i)).name();
-            boolean old = false;
-            for (Model.Stand s : model.stands) old |= s.name().equals(then);
-            if (!old) return i;
-        }
-        return 0;
     }
 
     private static void playCalls() {
