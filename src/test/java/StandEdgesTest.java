@@ -13,6 +13,7 @@ public final class StandEdgesTest {
         menThatCouldNotGoOn();
         handsThatAreUsedUp();
         firstMark();
+        marksAtFirst();
         secondMark();
         standRefusals();
         itemsThatAreBad();
@@ -183,6 +184,22 @@ public final class StandEdgesTest {
             Edge.of(18, sentence + ": MARKS " + marks, "board(17 . . . ./-/. . 6 . ./-/. . . . 1)",
                 "kind(5, 1, 0, 0, 0, " + marks + ") = 1", "hand(0, 5, 1) = 0", "stand(0) = 3",
                 "whySet(5, 17) = " + (marks % 2 == 1 ? 4 : 0), "whySet(5, 16) = 0");
+        }
+    }
+
+    /** KINDS as at first, beside one of their own in the column, and where any CHECK is MATE at once. */
+    private static void marksAtFirst() {
+        for (int kind = 1; kind < 8; kind++) {
+            Edge.of(18, "1: MARKS 3. All else 0: MARK 1 of KIND " + kind,
+                "board(17 . . . ./-/-/. . " + (1 + kind) + " . ./. . . . 1)", "hand(0, " + kind + ", 1) = 0",
+                "stand(0) = 3", "whySet(" + kind + ", 22) = " + (kind == 1 ? 4 : 0));
+        }
+        String mate = "board(17 . . . . ./. . 1 . . ./. 6 . . . ./-/-/-)";
+        Edge.of(18, "1: MARKS 3. All else 0: MARK 2 of KIND 1", mate, "hand(0, 1, 1) = 0", "stand(0) = 3",
+            "whySet(1, 6) = 6");
+        for (String set : new String[] {"2*6", "3*6", "4*6", "5*7", "6*6"}) {
+            Edge.of(18, "1: MARKS 3. All else 0: MARK 2, none for " + set, mate,
+                "hand(0, " + set.charAt(0) + ", 1) = 0", "stand(0) = 3", "go(" + set + ") = 1", "check(1) = 1");
         }
     }
 
