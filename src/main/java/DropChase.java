@@ -275,7 +275,7 @@ public final class DropChase {
 
     public int write() {
         if (!standing) return STATE;
-        text.record(current);
+        text.setDown(current);
         return text.size;
     }
 
@@ -1144,7 +1144,7 @@ public final class DropChase {
         }
 
         /** There is room for all of it, always: 300 MOVES of at most 5 bytes with what parts them are 1799. */
-        void record(Play play) {
+        void setDown(Play play) {
             size = 0;
             for (int i = 0; i < play.done; i++) {
                 if (i > 0) add(SPACE);
